@@ -58,9 +58,7 @@ public final class DocumentHouse {
     private static final int FAULT_ROOM = 40;
     private static final int FAULT_NO_INDEX = 41;
 
-    private final Room room;
     private final byte[] b;
-    private final byte[] answered;
     private final Out out;
     private final Reader reader;
     private final Filter filter;
@@ -81,10 +79,9 @@ public final class DocumentHouse {
     private int place;
 
     public DocumentHouse() {
-        room = new Room();
+        Room room = new Room();
         b = room.bytes;
-        answered = new byte[ANSWER_MOST];
-        out = new Out(answered, 0, ANSWER_MOST);
+        out = new Out(new byte[ANSWER_MOST], 0, ANSWER_MOST);
         reader = new Reader(b);
         filter = new Filter(room);
         change = new Change(b);
@@ -177,7 +174,7 @@ public final class DocumentHouse {
     }
 
     public int answer(int i) {
-        return i >= 0 && i < out.at && i < answered.length ? answered[i] & 255 : -1;
+        return i >= 0 && i < out.at && i < out.b.length ? out.b[i] & 255 : -1;
     }
 
     public int state(int what) {
@@ -327,24 +324,22 @@ public final class DocumentHouse {
 
     private void insert() {
         int length = Room.next(b, head) - Room.valueAt(b, head);
-        if (shelf.count >= DOCUMENTS_MOST || shelf.total + length > BYTES_MOST) {
+        boolean fits = shelf.count < DOCUMENTS_MOST && shelf.total + length <= BYTES_MOST;
+        for (int i = 0; i < INDEXES_MOST && fits; i++) {
+            fits = shelf.indexes[i].fitsAnother(head);
+        }
+        if (!fits) {
             fail(FAULT_ROOM, -1);
             return;
         }
-        for (int i = 0; i < INDEXES_MOST; i++) {
-            Index index = shelf.indexes[i];
-            if (index.stands && !index.fits(index.tree.entries + index.entriesOf(head))) {
-                fail(FAULT_ROOM, -1);
-                return;
-            }
+        int added = shelf.add(head);
+        for (int k = 0; k < shelf.count; k++) {
+            hits[k] = k == added;
         }
-        int k = shelf.add(head);
         for (int i = 0; i < INDEXES_MOST; i++) {
-            if (shelf.indexes[i].stands) {
-                shelf.indexes[i].takesIn(shelf.at[k], shelf.numbers[k]);
-            }
+            shelf.indexes[i].takesIn(shelf, hits);
         }
-        out.named("number", shelf.numbers[k]);
+        out.named("number", shelf.numbers[added]);
     }
 
     /** Tells for which documents of the shelf the request's filter holds; -1 when it has a fault. */
@@ -397,34 +392,17 @@ public final class DocumentHouse {
         if (many < 0) {
             return;
         }
-        takeOut(hits);
+        for (int i = 0; i < INDEXES_MOST; i++) {
+            shelf.indexes[i].takesOut(shelf, hits);
+        }
         shelf.remove(hits);
         out.named("many", many);
     }
 
-    /** Takes the entries of the marked documents out of all indexes of the shelf. */
-    private void takeOut(boolean[] marked) {
-        for (int i = 0; i < INDEXES_MOST; i++) {
-            Index index = shelf.indexes[i];
-            for (int k = 0; k < shelf.count && index.stands; k++) {
-                if (marked[k]) {
-                    index.takesOut(shelf.at[k], shelf.numbers[k]);
-                }
-            }
-        }
-    }
-
-    private void takeIn(boolean[] marked) {
-        for (int i = 0; i < INDEXES_MOST; i++) {
-            Index index = shelf.indexes[i];
-            for (int k = 0; k < shelf.count && index.stands; k++) {
-                if (marked[k]) {
-                    index.takesIn(shelf.at[k], shelf.numbers[k]);
-                }
-            }
-        }
-    }
-
+    /**
+     * Writes all documents of the shelf, those hit changed, to a free part of the room, as far as they find
+     * room there, and takes them as the shelf's when nothing is wrong with any of them.
+     */
     private void update() {
         int many = hitsOfFilter();
         if (many < 0) {
@@ -434,62 +412,46 @@ public final class DocumentHouse {
             failAt(FAULT_CHANGE + change.fault, change.place);
             return;
         }
-        int total = renewAll();
-        if (fault != 0) {
-            return;
-        }
-        if (total > BYTES_MOST || !indexesFit()) {
-            fail(FAULT_ROOM, -1);
-            return;
-        }
-        int changed = 0;
-        for (int k = 0; k < shelf.count; k++) {
-            changed += hits[k] ? 1 : 0;
-        }
-        takeOut(hits);
-        shelf.renew(renewed);
-        takeIn(hits);
-        out.named("many", many);
-        out.named("changed", changed);
-    }
-
-    /**
-     * Writes all documents of the shelf, those hit changed, to a free part of the room, as far as they
-     * find room there; afterwards a hit is a document that was changed. The bytes that all have then.
-     */
-    private int renewAll() {
         Out renewing = shelf.renewing;
         renewing.start(BELTS, BELTS + SHELF_ROOM);
         int total = 0;
+        int changed = 0;
         for (int k = 0; k < shelf.count; k++) {
             int from = shelf.at[k];
             if (hits[k]) {
                 if (!change.does(from, third)) {
                     failAt(FAULT_CHANGE + change.fault, change.place);
-                    return total;
+                    return;
                 }
                 from = WORK;
                 hits[k] = change.changed;
+                changed += change.changed ? 1 : 0;
             }
             renewed[k] = renewing.at;
             renewing.copy(b, from, Room.next(b, from));
             total += Room.whole4(b, from + HEAD);
         }
-        return total;
-    }
-
-    private boolean indexesFit() {
-        for (int i = 0; i < INDEXES_MOST; i++) {
-            Index index = shelf.indexes[i];
-            if (index.stands && !index.fitsAll(renewed, shelf.count)) {
-                return false;
-            }
+        boolean fits = total <= BYTES_MOST;
+        for (int i = 0; i < INDEXES_MOST && fits; i++) {
+            fits = shelf.indexes[i].fitsAll(renewed, shelf.count);
         }
-        return true;
+        if (!fits) {
+            fail(FAULT_ROOM, -1);
+            return;
+        }
+        for (int i = 0; i < INDEXES_MOST; i++) {
+            shelf.indexes[i].takesOut(shelf, hits);
+        }
+        shelf.renew(renewed);
+        for (int i = 0; i < INDEXES_MOST; i++) {
+            shelf.indexes[i].takesIn(shelf, hits);
+        }
+        out.named("many", many);
+        out.named("changed", changed);
     }
 
     private void makeIndex() {
-        int free = shelf.indexCount() == INDEXES_MOST ? -1 : shelf.freeIndex();
+        int free = shelf.freeIndex();
         if (free < 0) {
             fail(FAULT_ROOM, -1);
             return;
@@ -497,13 +459,14 @@ public final class DocumentHouse {
         Index index = shelf.indexes[free];
         index.prepare(head, third);
         if (!index.fitsAll(shelf.at, shelf.count)) {
+            index.stands = false;
             fail(FAULT_ROOM, -1);
             return;
         }
-        index.stands = true;
         for (int k = 0; k < shelf.count; k++) {
-            index.takesIn(shelf.at[k], shelf.numbers[k]);
+            hits[k] = true;
         }
+        index.takesIn(shelf, hits);
         out.named("index", free);
     }
 
@@ -577,24 +540,21 @@ public final class DocumentHouse {
         int choice = -1;
         int rank = 0;
         int ranges = 1;
+        int looked = shelf.count;
         for (int i = 0; i < INDEXES_MOST; i++) {
             Index index = shelf.indexes[i];
             if (!index.stands) {
                 continue;
             }
-            bounds.rankFor(head, index);
-            if (bounds.rank > rank || bounds.rank > 0 && bounds.rank == rank && bounds.ranges < ranges) {
+            boolean first = bounds.bind(head, index.first, index.firstMany, Bounds.FIRST);
+            boolean second = index.hasSecond
+                && bounds.bind(head, index.second, index.secondMany, Bounds.SECOND);
+            bounds.rankBy(first, second);
+            if (bounds.rank > rank || first && bounds.rank == rank && bounds.ranges < ranges) {
                 choice = i;
                 rank = bounds.rank;
                 ranges = bounds.ranges;
-            }
-        }
-        int looked = shelf.count;
-        if (choice >= 0) {
-            bounds.rankFor(head, shelf.indexes[choice]);
-            looked = 0;
-            for (int k = 0; k < shelf.count; k++) {
-                looked += bounds.looksAt(shelf.indexes[choice], shelf.at[k]) ? 1 : 0;
+                looked = bounds.looksAt(index, shelf);
             }
         }
         out.named("index", choice);
@@ -639,6 +599,28 @@ public final class DocumentHouse {
             }
         }
 
+        /** Piles up the items of the leaves that are piled up from there on; what is missing becomes this. */
+        private void addItems(int mark, int missing) {
+            int end = top;
+            if (end == mark) {
+                push(missing);
+            }
+            for (int i = mark; i < end; i++) {
+                int leaf = leaf(i);
+                if (leaf < 0) {
+                    put(i, missing);
+                }
+                if (kind(bytes, leaf) != ROW) {
+                    continue;
+                }
+                int item = first(bytes, leaf);
+                for (int k = 0; k < ELEMENTS_GUARD && kind(bytes, item) != 0; k++) {
+                    push(item);
+                    item = next(bytes, item);
+                }
+            }
+        }
+
         private static int kind(byte[] b, int p) {
             return p >= 0 && p < b.length ? b[p] : 0;
         }
@@ -648,10 +630,6 @@ public final class DocumentHouse {
                 return 0;
             }
             return b[p] & 255 | (b[p + 1] & 255) << 8 | (b[p + 2] & 255) << 16 | b[p + 3] << 24;
-        }
-
-        private static long whole8(byte[] b, int p) {
-            return whole4(b, p) & 0xFFFFFFFFL | (long) whole4(b, p + 4) << 32;
         }
 
         /** Where the value of an element begins. */
@@ -692,7 +670,12 @@ public final class DocumentHouse {
 
         /** The first element of a document or row; its last byte when it has none. */
         private static int first(byte[] b, int p) {
-            return valueAt(b, p) + 4;
+            for (int v = p < 0 ? b.length : p; v < b.length - 1; v++) {
+                if (b[v + 1] == 0) {
+                    return v + 6;
+                }
+            }
+            return b.length;
         }
 
         private static int items(byte[] b, int p) {
@@ -739,12 +722,10 @@ public final class DocumentHouse {
             return kind == WHOLE32 || kind == WHOLE64;
         }
 
-        private static long wholeAt(byte[] b, int kind, int v) {
-            return kind == WHOLE32 ? whole4(b, v) : whole8(b, v);
-        }
-
         private static long whole(byte[] b, int p) {
-            return wholeAt(b, kind(b, p), valueAt(b, p));
+            int v = valueAt(b, p);
+            int low = whole4(b, v);
+            return kind(b, p) == WHOLE32 ? low : low & 0xFFFFFFFFL | (long) whole4(b, v + 4) << 32;
         }
 
         private static boolean isTruth(byte[] b, int p, int truth) {
@@ -929,12 +910,14 @@ public final class DocumentHouse {
         }
 
         private void put4(int x) {
-            if (at + 4 > limit) {
+            if (at + 4 > limit || at + 4 > b.length) {
                 over = true;
                 return;
             }
-            patch(at, x);
-            at += 4;
+            for (int i = 0; i < 4; i++) {
+                b[at] = (byte) (x >> 8 * i);
+                at++;
+            }
         }
 
         private void put8(long x) {
@@ -1191,10 +1174,6 @@ public final class DocumentHouse {
                 source, p + 1, Room.valueAt(source, p) - 1) == 0;
         }
 
-        private int find(byte[] source, int p, int step) {
-            return step >= 0 && step < steps ? Room.find(source, p, b, from[step], to[step]) : MISSING;
-        }
-
         private boolean isDigits(int step) {
             if (step < 0 || step >= steps || b[from[step]] == '0' && to[step] - from[step] > 1) {
                 return false;
@@ -1216,7 +1195,7 @@ public final class DocumentHouse {
             byte[] source = room.bytes;
             int kind = Room.kind(source, p);
             if (kind == ROW) {
-                int item = isDigits(step) ? find(source, p, step) : MISSING;
+                int item = isDigits(step) ? Room.find(source, p, b, from[step], to[step]) : MISSING;
                 if (item >= 0) {
                     walk(room, item, step + 1, depth + 1);
                 }
@@ -1229,35 +1208,11 @@ public final class DocumentHouse {
                 }
                 return;
             }
-            int element = kind == DOCUMENT ? find(source, p, step) : MISSING;
+            int element = kind == DOCUMENT ? Room.find(source, p, b, from[step], to[step]) : MISSING;
             if (element < 0) {
                 room.push(MISSING);
             } else {
                 walk(room, element, step + 1, depth + 1);
-            }
-        }
-
-        /** Piles up the leaves at a value, each with its items, and what is missing as this. */
-        private void walkWithItems(Room room, int p, int missing) {
-            int mark = room.top;
-            walk(room, p, 0, 0);
-            int end = room.top;
-            if (end == mark) {
-                room.push(missing);
-            }
-            for (int i = mark; i < end; i++) {
-                int leaf = room.leaf(i);
-                if (leaf < 0) {
-                    room.put(i, missing);
-                }
-                if (Room.kind(room.bytes, leaf) != ROW) {
-                    continue;
-                }
-                int item = Room.first(room.bytes, leaf);
-                for (int k = 0; k < ELEMENTS_GUARD && Room.kind(room.bytes, item) != 0; k++) {
-                    room.push(item);
-                    item = Room.next(room.bytes, item);
-                }
             }
         }
     }
@@ -1745,21 +1700,11 @@ public final class DocumentHouse {
             end += more;
             work.start(at, at + fresh);
             for (int i = 0; i < links && i < chain.length; i++) {
-                addToLength(Room.valueAt(b, chain[i]), more);
+                int v = Room.valueAt(b, chain[i]);
+                work.patch(v, Room.whole4(b, v) + more);
             }
             changed = true;
             return true;
-        }
-
-        private void addToLength(int v, int more) {
-            if (v < 0 || v + 4 > b.length) {
-                return;
-            }
-            int length = Room.whole4(b, v) + more;
-            b[v] = (byte) length;
-            b[v + 1] = (byte) (length >> 8);
-            b[v + 2] = (byte) (length >> 16);
-            b[v + 3] = (byte) (length >> 24);
         }
 
         private void link(int container) {
@@ -1779,7 +1724,7 @@ public final class DocumentHouse {
                     return 6;
                 }
                 link(at);
-                int next = path.find(b, at, s);
+                int next = Room.find(b, at, path.b, path.from[s], path.to[s]);
                 if (next < 0 && kind == ROW
                     && !Room.isDecimal(path.b, path.from[s], path.to[s], Room.items(b, at))) {
                     return 6;
@@ -1911,7 +1856,7 @@ public final class DocumentHouse {
                     return 0;
                 }
                 link(at);
-                at = path.find(b, at, s);
+                at = Room.find(b, at, path.b, path.from[s], path.to[s]);
                 if (at < 0) {
                     return 0;
                 }
@@ -2151,7 +2096,7 @@ public final class DocumentHouse {
                     writeRow(p, s, 0);
                     return row;
                 }
-                p = Room.kind(b, p) == DOCUMENT ? path.find(b, p, s) : MISSING;
+                p = Room.kind(b, p) == DOCUMENT ? Room.find(b, p, path.b, path.from[s], path.to[s]) : MISSING;
             }
             return p;
         }
@@ -2165,7 +2110,7 @@ public final class DocumentHouse {
                 int p = Room.kind(b, item) == DOCUMENT ? item : MISSING;
                 int s = step;
                 for (; s < path.steps && Room.kind(b, p) == DOCUMENT; s++) {
-                    p = path.find(b, p, s);
+                    p = Room.find(b, p, path.b, path.from[s], path.to[s]);
                 }
                 if (p >= 0 && s == path.steps) {
                     scratch.item(Room.kind(b, p), written);
@@ -2237,7 +2182,7 @@ public final class DocumentHouse {
             for (int i = 0; i < count; i++) {
                 int p = belt[i];
                 for (int s = 0; s < path.steps && p >= 0; s++) {
-                    p = Room.kind(b, p) == DOCUMENT ? path.find(b, p, s) : MISSING;
+                    p = Room.kind(b, p) == DOCUMENT ? Room.find(b, p, path.b, path.from[s], path.to[s]) : MISSING;
                 }
                 int kind = Room.kind(b, p);
                 if (p < 0 || kind == NOTHING) {
@@ -2274,7 +2219,7 @@ public final class DocumentHouse {
             for (int s = 0; s < path.steps && p >= 0; s++) {
                 int v = Room.valueAt(b, p);
                 out.patch(start + v - document, Room.whole4(b, v) + more);
-                p = path.find(b, p, s);
+                p = Room.find(b, p, path.b, path.from[s], path.to[s]);
             }
             finishDocument(start + HEAD);
         }
@@ -2344,7 +2289,14 @@ public final class DocumentHouse {
                 int x = Room.next(b, by);
                 for (int k = 0; k < TAPE_MOST && Room.kind(b, x) != 0; k++) {
                     scratch.at = mark;
-                    gather(x, i);
+                    int n = 0;
+                    for (int m = i; m < count; m++) {
+                        if (groups[m] == i) {
+                            values[n] = valueOf(Room.first(b, x), belt[m]);
+                            n++;
+                        }
+                    }
+                    writeGathered(x, n);
                     x = Room.next(b, x);
                 }
                 closeDocument(start);
@@ -2352,17 +2304,9 @@ public final class DocumentHouse {
             return sumTooBig ? 4 : endFresh();
         }
 
-        /** Writes an element of a group: what its value says of the group's documents. */
-        private void gather(int x, int group) {
-            int a = Room.first(b, x);
-            int accumulator = accumulatorOf(b, a);
-            int n = 0;
-            for (int i = group; i < count; i++) {
-                if (groups[i] == group) {
-                    values[n] = valueOf(a, belt[i]);
-                    n++;
-                }
-            }
+        /** Writes an element of a group: what its value says of so many values of the group's documents. */
+        private void writeGathered(int x, int n) {
+            int accumulator = accumulatorOf(b, Room.first(b, x));
             int from = x + 1;
             int to = Room.valueAt(b, x) - 1;
             if (accumulator == COUNT_OF || accumulator == SUM) {
@@ -2478,7 +2422,8 @@ public final class DocumentHouse {
 
         private int sortKey(int document, int way) {
             int mark = room.top;
-            path.walkWithItems(room, document, MISSING);
+            path.walk(room, document, 0, 0);
+            room.addItems(mark, MISSING);
             int best = room.leaf(mark);
             for (int i = mark + 1; i < room.top; i++) {
                 if (Room.compare(b, room.leaf(i), b, best, 0) * way < 0) {
@@ -2561,12 +2506,14 @@ public final class DocumentHouse {
         /** Writes the row of the documents of belt 1 that have a value in common with this one. */
         private void writeFound(int document) {
             int mark = room.top;
-            path.walkWithItems(room, document, NOTHING_AT);
+            path.walk(room, document, 0, 0);
+            room.addItems(mark, NOTHING_AT);
             int end = room.top;
             int row = out.open();
             int found = 0;
             for (int i = 0; i < other.count && i < other.at.length; i++) {
-                therePath.walkWithItems(room, other.at[i], NOTHING_AT);
+                therePath.walk(room, other.at[i], 0, 0);
+                room.addItems(end, NOTHING_AT);
                 if (someSame(mark, end)) {
                     out.item(DOCUMENT, found);
                     out.value(b, other.at[i]);
@@ -2715,7 +2662,7 @@ public final class DocumentHouse {
             secondKeys = new int[KEYS_GUARD];
         }
 
-        /** Takes the paths and ways of a request to make an index, as one without entries. */
+        /** Takes the paths and ways of a request to make an index, and stands, without entries. */
         private void prepare(int paths, int downs) {
             int text = Room.first(b, paths);
             int down = Room.first(b, downs);
@@ -2729,6 +2676,7 @@ public final class DocumentHouse {
             }
             firstMany = false;
             secondMany = false;
+            stands = true;
         }
 
         private void takePath(Path path, int text) {
@@ -2739,17 +2687,17 @@ public final class DocumentHouse {
             path.set(kept, 0, kept.length);
         }
 
-        private boolean fits(int entries) {
+        /** Whether the entries of all these documents together fit; always when there is no such index. */
+        private boolean fitsAll(int[] documents, int n) {
+            int entries = 0;
+            for (int k = 0; k < n && k < documents.length && stands && entries <= ENTRIES_MOST; k++) {
+                entries += entriesOf(documents[k]);
+            }
             return entries <= ENTRIES_MOST;
         }
 
-        /** Whether the entries of all these documents together fit. */
-        private boolean fitsAll(int[] documents, int n) {
-            int entries = 0;
-            for (int k = 0; k < n && k < documents.length && fits(entries); k++) {
-                entries += entriesOf(documents[k]);
-            }
-            return fits(entries);
+        private boolean fitsAnother(int document) {
+            return !stands || tree.entries + entriesOf(document) <= ENTRIES_MOST;
         }
 
         /** Finds the keys of a document: how many entries it has; more than fit when a key is too long. */
@@ -2810,22 +2758,34 @@ public final class DocumentHouse {
             return n + 1;
         }
 
-        private void takesIn(int document, int number) {
-            entriesOf(document);
-            firstMany = firstMany || firstCount > 1;
-            secondMany = secondMany || secondCount > 1;
-            for (int i = 0; i < firstCount; i++) {
-                for (int k = 0; k < secondCount; k++) {
-                    tree.comes(b, firstKeys[i], secondKeys[k], number);
+        /** Puts the entries of the marked documents of a shelf into the tree. */
+        private void takesIn(Shelf shelf, boolean[] marked) {
+            for (int n = 0; n < shelf.count && n < marked.length && stands; n++) {
+                if (!marked[n]) {
+                    continue;
+                }
+                entriesOf(shelf.at[n]);
+                firstMany = firstMany || firstCount > 1;
+                secondMany = secondMany || secondCount > 1;
+                for (int i = 0; i < firstCount; i++) {
+                    for (int k = 0; k < secondCount; k++) {
+                        tree.comes(b, firstKeys[i], secondKeys[k], shelf.numbers[n]);
+                    }
                 }
             }
         }
 
-        private void takesOut(int document, int number) {
-            entriesOf(document);
-            for (int i = 0; i < firstCount; i++) {
-                for (int k = 0; k < secondCount; k++) {
-                    tree.goes(b, firstKeys[i], secondKeys[k], number);
+        /** Takes the entries of the marked documents of a shelf out of the tree. */
+        private void takesOut(Shelf shelf, boolean[] marked) {
+            for (int n = 0; n < shelf.count && n < marked.length && stands; n++) {
+                if (!marked[n]) {
+                    continue;
+                }
+                entriesOf(shelf.at[n]);
+                for (int i = 0; i < firstCount; i++) {
+                    for (int k = 0; k < secondCount; k++) {
+                        tree.goes(b, firstKeys[i], secondKeys[k], shelf.numbers[n]);
+                    }
                 }
             }
         }
@@ -3182,6 +3142,8 @@ public final class DocumentHouse {
         private static final int HIGH_IN = 2;
         private static final int INTERVALS_MOST = 700;
         private static final int ROWS = 5;
+        /** A value alone, which is as $eq, is no condition by its name. */
+        private static final int ALONE = 0;
 
         private final Room room;
         private final byte[] b;
@@ -3197,30 +3159,28 @@ public final class DocumentHouse {
             counts = new int[SETS];
         }
 
-        /** Tells the rank and the ranges of an index for a filter, and keeps the bounds of its paths. */
-        private void rankFor(int filter, Index index) {
+        /** Tells the rank and the ranges of an index by which of its paths are bound. */
+        private void rankBy(boolean first, boolean second) {
             rank = 0;
             ranges = 1;
-            if (!bind(filter, index.first, index.firstMany, FIRST)) {
-                return;
-            }
-            rank = 1;
-            ranges = counts[FIRST];
-            if (!isPoints(FIRST)) {
-                return;
-            }
-            rank = 2;
-            if (index.hasSecond && bind(filter, index.second, index.secondMany, SECOND)) {
-                rank = 3;
-                ranges *= counts[SECOND];
+            if (first) {
+                boolean points = isPoints(FIRST);
+                rank = !points ? 1 : second ? 3 : 2;
+                ranges = rank == 3 ? counts[FIRST] * counts[SECOND] : counts[FIRST];
             }
         }
 
-        /** Whether an entry of a document is in the ranges of the index that was ranked last. */
-        private boolean looksAt(Index index, int document) {
-            index.entriesOf(document);
-            return someIn(FIRST, index.firstKeys, index.firstCount)
-                && (rank < 3 || someIn(SECOND, index.secondKeys, index.secondCount));
+        /** How many documents of a shelf have an entry in the ranges of the index that was ranked last. */
+        private int looksAt(Index index, Shelf shelf) {
+            int looked = 0;
+            for (int k = 0; k < shelf.count && k < shelf.at.length; k++) {
+                index.entriesOf(shelf.at[k]);
+                if (someIn(FIRST, index.firstKeys, index.firstCount)
+                    && (rank < 3 || someIn(SECOND, index.secondKeys, index.secondCount))) {
+                    looked++;
+                }
+            }
+            return looked;
         }
 
         private boolean someIn(int set, int[] keys, int n) {
@@ -3259,9 +3219,33 @@ public final class DocumentHouse {
         private boolean bind(int filter, Path path, boolean many, int set) {
             int mark = room.top;
             collect(filter, path, 0);
-            boolean bound = many ? bindFirst(mark, set) : bindAll(mark, set);
+            boolean bound = many && bindSame(mark, set);
+            for (int i = mark; i < room.top && !(many && bound); i++) {
+                int c = room.leaf(i);
+                if (Room.named(b, c, "$elem") ? !bindElem(c, PART) : !bindOne(c, PART)) {
+                    continue;
+                }
+                if (bound) {
+                    meet(set, PART);
+                } else {
+                    copy(PART, set);
+                }
+                bound = true;
+            }
             room.top = mark;
             return bound;
+        }
+
+        /** Finds the bounds of the first $eq or $in that has some; false when there is none. */
+        private boolean bindSame(int mark, int set) {
+            for (int i = mark; i < room.top; i++) {
+                int condition = Filter.conditionOf(b, room.leaf(i));
+                boolean same = condition == ALONE || condition == Filter.EQ || condition == Filter.IN;
+                if (same && bindOne(room.leaf(i), set)) {
+                    return true;
+                }
+            }
+            return false;
         }
 
         /** Piles up the conditions that a filter has for a path; a value alone as its own element. */
@@ -3289,44 +3273,6 @@ public final class DocumentHouse {
             }
         }
 
-        private int conditionOf(int c) {
-            return Room.beginsWithDollar(b, c) ? Filter.conditionOf(b, c) : Filter.EQ;
-        }
-
-        private boolean bindAll(int mark, int set) {
-            boolean bound = false;
-            for (int i = mark; i < room.top; i++) {
-                int c = room.leaf(i);
-                if (conditionOf(c) == Filter.ELEM ? !bindElem(c, PART) : !bindOne(conditionOf(c), c, PART)) {
-                    continue;
-                }
-                if (bound) {
-                    meet(set, PART);
-                } else {
-                    copy(PART, set);
-                }
-                bound = true;
-            }
-            return bound;
-        }
-
-        private boolean bindFirst(int mark, int set) {
-            for (int i = mark; i < room.top; i++) {
-                int condition = conditionOf(room.leaf(i));
-                if ((condition == Filter.EQ || condition == Filter.IN)
-                    && bindOne(condition, room.leaf(i), set)) {
-                    return true;
-                }
-            }
-            for (int i = mark; i < room.top; i++) {
-                int c = room.leaf(i);
-                if (conditionOf(c) == Filter.ELEM ? bindElem(c, set) : bindOne(conditionOf(c), c, set)) {
-                    return true;
-                }
-            }
-            return false;
-        }
-
         private boolean bindElem(int elem, int set) {
             if (!Filter.isConditionsOfItem(b, elem)) {
                 return false;
@@ -3334,7 +3280,7 @@ public final class DocumentHouse {
             boolean bound = false;
             int c = Room.first(b, elem);
             for (int i = 0; i < TAPE_MOST && Room.kind(b, c) != 0; i++) {
-                if (bindOne(conditionOf(c), c, INNER)) {
+                if (bindOne(c, INNER)) {
                     if (bound) {
                         meet(set, INNER);
                     } else {
@@ -3351,32 +3297,13 @@ public final class DocumentHouse {
         }
 
         /** Finds the bounds of one condition of the six that have some; false when it has none. */
-        private boolean bindOne(int condition, int c, int set) {
+        private boolean bindOne(int c, int set) {
+            int condition = Filter.conditionOf(b, c);
             counts[set] = 0;
-            int kind = Room.kind(b, c);
-            if (condition == Filter.IN) {
-                return bindIn(c, set);
+            if (condition != Filter.IN) {
+                return bindSimple(condition, c, set);
             }
-            boolean less = condition == Filter.LT || condition == Filter.LTE;
-            boolean greater = condition == Filter.GT || condition == Filter.GTE;
-            boolean same = condition == Filter.EQ || condition == Filter.LTE || condition == Filter.GTE;
-            if (kind == ROW || !less && !greater && !same) {
-                return false;
-            }
-            if (kind == NOTHING || condition == Filter.EQ) {
-                if (same) {
-                    addPoint(set, c);
-                }
-            } else if (less) {
-                addTo(set, Room.classOf(b, c), MISSING, c, same ? HIGH_IN : 0);
-            } else {
-                addTo(set, Room.classOf(b, c), c, MISSING, same ? LOW_IN : 0);
-            }
-            return true;
-        }
-
-        private boolean bindIn(int row, int set) {
-            int v = Room.first(b, row);
+            int v = Room.first(b, c);
             for (int i = 0; i < TAPE_MOST && Room.kind(b, v) != 0; i++) {
                 if (Room.kind(b, v) == ROW) {
                     return false;
@@ -3389,6 +3316,27 @@ public final class DocumentHouse {
                     addPoint(set, v);
                 }
                 v = Room.next(b, v);
+            }
+            return true;
+        }
+
+        private boolean bindSimple(int condition, int c, int set) {
+            int kind = Room.kind(b, c);
+            boolean equal = condition == ALONE || condition == Filter.EQ;
+            boolean less = condition == Filter.LT || condition == Filter.LTE;
+            boolean greater = condition == Filter.GT || condition == Filter.GTE;
+            boolean same = equal || condition == Filter.LTE || condition == Filter.GTE;
+            if (kind == ROW || !less && !greater && !same) {
+                return false;
+            }
+            if (kind == NOTHING || equal) {
+                if (same) {
+                    addPoint(set, c);
+                }
+            } else if (less) {
+                addTo(set, Room.classOf(b, c), MISSING, c, same ? HIGH_IN : 0);
+            } else {
+                addTo(set, Room.classOf(b, c), c, MISSING, same ? LOW_IN : 0);
             }
             return true;
         }
@@ -3430,33 +3378,29 @@ public final class DocumentHouse {
             if (one[p] != other[q]) {
                 return;
             }
-            boolean lowOfOne = isInner(one, p, other, q, LOW_IN);
-            boolean highOfOne = isInner(one, p, other, q, HIGH_IN);
-            int low = lowOfOne ? one[p + 1] : other[q + 1];
-            int high = highOfOne ? one[p + 2] : other[q + 2];
-            int in = (lowOfOne ? one[p + 3] : other[q + 3]) & LOW_IN
-                | (highOfOne ? one[p + 3] : other[q + 3]) & HIGH_IN;
-            if (low >= 0 && high >= 0) {
-                int order = Room.compare(b, low, b, high, 0);
-                if (order > 0 || order == 0 && in != (LOW_IN | HIGH_IN)) {
-                    return;
+            int low = MISSING;
+            int high = MISSING;
+            int in = 0;
+            for (int end = LOW_IN; end <= HIGH_IN; end++) {
+                int mine = one[p + end];
+                int yours = other[q + end];
+                int inner = Integer.compare(Math.min(mine, 0), Math.min(yours, 0));
+                if (mine >= 0 && yours >= 0) {
+                    inner = Room.compare(b, mine, b, yours, 0) * (end == LOW_IN ? 1 : -1);
+                }
+                boolean takesMine = inner > 0
+                    || inner == 0 && ((one[p + 3] & end) == 0 || (other[q + 3] & end) != 0);
+                in |= (takesMine ? one[p + 3] : other[q + 3]) & end;
+                if (end == LOW_IN) {
+                    low = takesMine ? mine : yours;
+                } else {
+                    high = takesMine ? mine : yours;
                 }
             }
-            addTo(SPARE, one[p], low, high, in);
-        }
-
-        /** Whether of two ends (the low ones, or the high ones) one's is the inner one, or they are alike. */
-        private boolean isInner(int[] one, int p, int[] other, int q, int end) {
-            int mine = one[p + end];
-            int yours = other[q + end];
-            if (mine < 0 || yours < 0) {
-                return yours < 0;
+            int order = low < 0 || high < 0 ? -1 : Room.compare(b, low, b, high, 0);
+            if (order < 0 || order == 0 && in == (LOW_IN | HIGH_IN)) {
+                addTo(SPARE, one[p], low, high, in);
             }
-            int order = Room.compare(b, mine, b, yours, 0);
-            if (order != 0) {
-                return end == LOW_IN ? order > 0 : order < 0;
-            }
-            return (one[p + 3] & end) == 0 || (other[q + 3] & end) != 0;
         }
     }
 }
