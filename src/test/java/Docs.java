@@ -235,21 +235,36 @@ final class Docs {
             "{fault: " + fault + ", place: " + place + "}");
     }
 
-    /** The place of the element whose head (its kind and name) stands there as bytes for the so manieth time. */
+    /** The place of the element that has that name, the so manieth in the order of their places. */
     static int placeOf(byte[] request, String name, int times) {
-        byte[] sought = name.getBytes(StandardCharsets.UTF_8);
-        int seen = 0;
-        for (int i = 4; i + sought.length + 1 < request.length; i++) {
-            boolean same = request[i + 1 + sought.length] == 0;
-            for (int k = 0; k < sought.length && same; k++) {
-                same = request[i + 1 + k] == sought[k];
-            }
-            boolean kind = "\2\3\4\10\12\20\22".indexOf(request[i]) >= 0;
-            if (same && kind && ++seen == times) {
-                return i;
-            }
+        int[] left = {times};
+        int place = placeIn(request, 0, name, left);
+        if (place < 0) {
+            throw new IllegalArgumentException("no " + name);
         }
-        throw new IllegalArgumentException("no " + name);
+        return place;
+    }
+
+    private static int placeIn(byte[] b, int p, String name, int[] left) {
+        int at = p + 4;
+        int last = p + get4(b, p) - 1;
+        while (at < last) {
+            int end = at + 1;
+            while (b[end] != 0) {
+                end++;
+            }
+            if (new String(b, at + 1, end - at - 1, StandardCharsets.UTF_8).equals(name) && --left[0] == 0) {
+                return at;
+            }
+            if (b[at] == 3 || b[at] == 4) {
+                int inside = placeIn(b, end + 1, name, left);
+                if (inside >= 0) {
+                    return inside;
+                }
+            }
+            at = value(b, b[at], end + 1, new StringBuilder());
+        }
+        return -1;
     }
 
     /** Asks for a fault at the element of that name. */
