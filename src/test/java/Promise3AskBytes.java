@@ -89,6 +89,8 @@ public final class Promise3AskBytes {
         fault(7, 8, document(10, "a", 0, 10, "a", 0));
         fault(7, 7, document(10, 0, 10, 0));
         fault(7, 11, document(10, "a", 0, 10, "b", 0, 10, "a", 0));
+        fault(7, 11, document(10, "a", 0, 10, "b", 0, 10, "b", 0));
+        fault(7, 16, document(10, "a", 0, 3, "b", 0, document(), 10, "b", 0));
         fault(9, 4, document(10, "a", 0, 10, "ab", 0, 10, 0, 10, "b", 0));
         fault(9, 4, document(3, "a", 0, document(10, "a", 0)));
         // a row's names

@@ -175,6 +175,8 @@ public final class Promise3AskChanges {
         fault(25, d, "{$set: {b: 1, b.c: 1}}", "b.c");
         fault(25, d, "{$set: {b: 1}, $unset: {c: 1, b.c.d: 1}}", "b.c.d");
         fault(25, d, "{$set: {b.c.d: 1}, $push: {b.c: 1}}", "b.c");
+        fault(25, d, "{$set: {b: 1, c: 1, c.d: 1}}", "c.d");
+        fault(25, d, "{$set: {b: 1}, $inc: {c: 1, e: 1}, $pull: {d: 1, c.x: 1}}", "c.x");
         fault(25, d, "{$set: {b.c: 1, x: 1, b.c.d: 1, b: 1}}", "b.c.d");
         becomes("{}", "{$set: {b: 1, bc: 1, c.b: 1, c.bc: 1, b0: 1}}", "{b: 1, bc: 1, c: {b: 1, bc: 1}, b0: 1}");
         becomes("{a: [0, 0]}", "{$set: {a.0: 1, a.1: 2, a.2: 3}}", "{a: [1, 2, 3]}");

@@ -158,6 +158,12 @@ public final class Promise3AskIndexes {
         explains("{a: {$in: []}, b: {$ne: 1}}", 0, 2, 0, 0);
         none("{b: 1}");
         Docs.asks(house, "{shape: 0, shelf: 0}", "{entries: 7, levels: 1, leaves: 1, nodes: 1, first: false, second: true}");
+        Docs.asks(house, "{delete: {b: 5}, shelf: 0}", "{many: 1}");
+        Docs.asks(house, "{shape: 0, shelf: 0}", "{entries: 5, levels: 1, leaves: 1, nodes: 1, first: false, second: true}");
+        Docs.asks(house, "{drop: 0, shelf: 0}", "{dropped: true}");
+        index("['a', 'b']", "[false, true]", 0);
+        Docs.asks(house, "{shape: 0, shelf: 0}", "{entries: 5, levels: 1, leaves: 1, nodes: 1, first: false, second: false}");
+        Docs.asks(house, "{insert: {a: 1, b: [1, 5]}, shelf: 0}", "{number: 7}");
         index("['b']", "[false]", 1);
         explains("{b: 1}", 1, 2, 1, 3);
         explains("{a: 1, b: 1}", 0, 3, 1, 2);

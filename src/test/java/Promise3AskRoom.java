@@ -39,6 +39,12 @@ public final class Promise3AskRoom {
         insert("{}", NO_ROOM);
         Docs.asks(house, "{update: {a: null}, shelf: 0, change: {$set: {b: null}}}", NO_ROOM);
         Docs.due("bytes", house.state(2), 40000);
+        String last = "{update: {a: 'w'}, shelf: 0, change: {$set: {a: V}}}";
+        String longest = "{update: {a: V}, shelf: 0, change: {$set: {a: 'w'}}}".replace("V", text(480 - 13 - 5));
+        Docs.asks(house, longest, "{many: 1, changed: 1}");
+        Docs.asks(house, last.replace("V", text(480 - 13 - 4)), NO_ROOM);
+        Docs.asks(house, last.replace("V", text(480 - 13 - 5)), "{many: 1, changed: 1}");
+        Docs.due("bytes", house.state(2), 40000);
         Docs.due("size", house.size(0, 21), 5);
         // by what there would be at last; and a fault of a change is ahead of no room
         Docs.asks(house, "{update: {}, shelf: 0, change: {$set: {b: " + text(100) + "}}}",
@@ -67,6 +73,26 @@ public final class Promise3AskRoom {
         Docs.asks(house, "{delete: {a: 1}, shelf: 0}", "{many: 1}");
         Docs.asks(house, "{delete: {a: []}, shelf: 0}", "{many: 23}");
         Docs.due("documents", house.state(0), 0);
+    }
+
+    /** Room is found again for what has gone, however often. */
+    private static void again() {
+        house = new DocumentHouse();
+        Docs.asks(house, "{insert: {a: 'other'}, shelf: 1}", "{number: 1}");
+        insert("{k: 1}", "{number: 1}");
+        for (int i = 2; i < 60; i++) {
+            insert("{k: 2, a: " + text(1900) + "}", "{number: " + i + "}");
+            Docs.asks(house, "{delete: {k: 2}, shelf: 0}", "{many: 1}");
+        }
+        insert("{k: 2, a: 1}", "{number: 60}");
+        for (int i = 0; i < 60; i++) {
+            Docs.asks(house, "{update: {k: 2}, shelf: 0, change: {$set: {a: " + text(1800 + i) + "}}}",
+                "{many: 1, changed: 1}");
+        }
+        Docs.asks(house, "{find: {}, shelf: 0}",
+            "{many: 2, found: [{number: 1, is: {k: 1}}, {number: 60, is: {k: 2, a: " + text(1859) + "}}]}");
+        Docs.asks(house, "{find: {}, shelf: 1}", "{many: 1, found: [{number: 1, is: {a: 'other'}}]}");
+        Docs.due("bytes", house.state(2), 12 + 20 + 1859);
     }
 
     private static final String TEN = "[0, 1, 2, 3, 4, 5, 6, 7, 8, 9]";
@@ -181,6 +207,7 @@ public final class Promise3AskRoom {
         documents();
         bytes();
         updates();
+        again();
         entries();
         keys();
         answers();

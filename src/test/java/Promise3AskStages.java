@@ -61,6 +61,9 @@ public final class Promise3AskStages {
         gives("{$project: {x: '$b.d.e'}}", "{x: [4, 5]}", "{x: []}");
         gives("{$project: {x: '$b.d.e.f'}}", "{x: []}", "{x: []}");
         gives("{$project: {x: '$b.c.x'}}", "{}", "{x: [[1]]}");
+        stand(all("{a: [{b: [{c: 1}, 7]}, 5, {b: []}, {b: {c: [2]}}, {b: [{c: 3}, {c: 4}]}]}"));
+        gives("{$project: {x: '$a.b.c'}}", "{x: [[1], [], [2], [3, 4]]}");
+        stand(all("{a: 1, b: {c: 2, d: [3, {e: 4}, {e: 5, f: 6}]}}", "{b: [{c: 1}, 7, {c: [{x: 1}]}, {d: 0}]}"));
         gives("{$project: {x: '$b.d.0'}}", "{x: []}", "{x: []}");
         gives("{$project: {x: '$a.b'}}", "{}", "{}");
         gives("{$project: {x: false, y: 5, z: 'text', w: {a: '$a'}, v: ['$a'], u: null}}",
@@ -130,6 +133,8 @@ public final class Promise3AskStages {
         fault(32, "{$group: {by: 1, x: 1, y: {$sum: '$'}}}", 0);
         fault(33, "{$group: {by: 1, x: {$sum: '$'}, y: 1}}", 0);
         fault(32, "{$group: {by: 1, .: {$sum: '$'}}}", 0);
+        fault(32, "{$group: {by: 1, x: {$count: null}, y: {$max: 1}, z: 1}}", 0);
+        fault(33, "{$group: {by: 1, x: {$count: null}, y: {$max: '$'}, z: 1}}", 0);
     }
 
     private static void sums() {
@@ -161,6 +166,17 @@ public final class Promise3AskStages {
         stand(all("{n: 0, a: [{b: 4}, {b: 1}]}", "{n: 1, a: [{b: 3}, {c: 1}]}", "{n: 2, a: []}", "{n: 3, a: {b: 2}}"));
         gives("{$sort: {a.b: 1}}, {$project: {n: true}}", "{n: 1}", "{n: 2}", "{n: 0}", "{n: 3}");
         gives("{$sort: {a.b: -1}}, {$project: {n: true}}", "{n: 0}", "{n: 1}", "{n: 3}", "{n: 2}");
+        StringBuilder items = new StringBuilder();
+        for (int i = 1; i < 380; i++) {
+            items.append("null, ");
+        }
+        items.append("true");
+        stand(all("{n: 0, a: [" + items + "]}", "{n: 1, a: []}", "{n: 2, a: true}"), "{a: false}", "{a: true}");
+        gives("{$sort: {a: 1}}, {$project: {n: true}}", "{n: 0}", "{n: 1}", "{n: 2}");
+        gives("{$project: {n: true}}, {$sort: {n: -1}}, {$lookup: {here: 'a', there: 'a', as: 'b'}}, {$limit: 1}",
+            "{n: 2, b: []}");
+        gives("{$lookup: {here: 'a', there: 'a', as: 'a'}}", "{n: 0, a: [{a: true}]}", "{n: 1, a: []}",
+            "{n: 2, a: [{a: true}]}");
         for (String value : new String[] {"1", "null", "[]", "{}", "'a'", "{a: 1, b: 1, c: 1, d: 1, e: 1}", "{a: 0}",
             "{a: 2}", "{a: -2}", "{a: true}", "{a: '1'}", "{a: 4294967297L}", "{a: 1, .: 0}", "{.: 0}",
             "{a: 1, b: 1, c: 1, d: 1, .: 1}"}) {
@@ -225,6 +241,15 @@ public final class Promise3AskStages {
         gives("{$group: {by: 1, p: {$push: '$a'}}}", "{by: 1, p: [" + x + ", " + x + "]}");
         fault(35, "{$group: {by: '$a', p: {$push: '$a'}, q: {$first: '$a'}}}", 0);
         fault(35, "{$lookup: {here: 'a', there: 'a', as: 'b'}}, {$project: {p: '$a', q: '$a', r: '" + "y".repeat(90) + "'}}", 1);
+        // values of many documents that are long, if not what comes of them
+        house = new DocumentHouse();
+        for (int i = 0; i < 20; i++) {
+            Docs.ask(house, "{insert: {a: [{b: '" + "x".repeat(1880) + "'}], c: [{d: " + i + "}]}, shelf: 0}");
+        }
+        gives("{$group: {by: 1, a: {$sum: '$a.b'}, b: {$sum: '$a.b'}, c: {$sum: '$a.b'}, d: {$sum: '$a.b'}, "
+            + "e: {$max: '$c.d'}, f: {$min: '$c.d'}}}", "{by: 1, a: 0L, b: 0L, c: 0L, d: 0L, e: [19], f: [0]}");
+        gives("{$group: {by: '$a.b', n: {$max: '$c.d'}, m: {$count: null}, o: {$last: '$a.c'}}}, {$project: {n: true, "
+            + "m: true, o: true}}", "{n: [19], m: 20L, o: []}");
         // more than 16 deep
         String deep = "{a: {a: {a: {a: {a: {a: {a: {a: {a: {a: {a: {a: {a: {}}}}}}}}}}}}}}";
         stand(all(deep), deep);
@@ -251,6 +276,9 @@ public final class Promise3AskStages {
         // each new one has 4 + 7 + 984 + 1 bytes, with xx 1,000: 40 of them 40,000
         gives("{$unwind: '$a'}, {$project: {a: true, s: true, xx: null}}, " + count, "{by: 1, n: 40L}");
         fault(35, "{$unwind: '$a'}, {$project: {a: true, s: true, xxx: null}}, " + count, 1);
+        Docs.ask(house, "{update: {}, shelf: 0, change: {$push: {a: 3}}}");
+        fault(35, "{$unwind: '$a'}, {$match: {a: 9}}", 0);
+        gives("{$limit: 13}, {$unwind: '$a'}, " + count, "{by: 1, n: 39L}");
     }
 
     public static void main(String[] args) {

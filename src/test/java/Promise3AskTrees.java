@@ -163,6 +163,15 @@ public final class Promise3AskTrees {
         // 1 to 4 are taken out, by which the first two leaves are joined, and come again: [1 .. 8] [9 .. 13]
         Docs.asks(house, "{update: {a: {$lt: 5}}, shelf: 0, change: {$set: {k: 2}}}", "{many: 4, changed: 4}");
         shape(13, 2, 2, 3);
+        // entries of documents that are not changed stay where they are
+        Docs.asks(house, "{update: {}, shelf: 0, change: {$unset: {z: 1}}}", "{many: 13, changed: 0}");
+        shape(13, 2, 2, 3);
+        Docs.asks(house, "{update: {}, shelf: 0, change: {$addToSet: {k: 1}}}",
+            "{fault: 27, place: " + Docs.placeOf(Docs.bytes(
+            "{update: {}, shelf: 0, change: {$addToSet: {k: 1}}}"), "k", 1) + "}");
+        shape(13, 2, 2, 3);
+        Docs.asks(house, "{update: {}, shelf: 0, change: {$set: {k: 2}}}", "{many: 13, changed: 9}");
+        shape(13, 2, 3, 4);
         // all are taken out ahead of the first that comes: one leaf, then as at first
         Docs.asks(house, "{update: {}, shelf: 0, change: {$set: {k: 3}}}", "{many: 13, changed: 13}");
         shape(13, 2, 3, 4);
