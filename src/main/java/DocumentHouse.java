@@ -1174,18 +1174,6 @@ public final class DocumentHouse {
                 source, p + 1, Room.valueAt(source, p) - 1) == 0;
         }
 
-        private boolean isDigits(int step) {
-            if (step < 0 || step >= steps || b[from[step]] == '0' && to[step] - from[step] > 1) {
-                return false;
-            }
-            for (int i = from[step]; i < to[step]; i++) {
-                if (b[i] < '0' || b[i] > '9') {
-                    return false;
-                }
-            }
-            return true;
-        }
-
         /** Piles up the leaves of what is behind so many steps at a value. */
         private void walk(Room room, int p, int step, int depth) {
             if (step >= steps || depth > DEEP_GUARD) {
@@ -1194,25 +1182,20 @@ public final class DocumentHouse {
             }
             byte[] source = room.bytes;
             int kind = Room.kind(source, p);
-            if (kind == ROW) {
-                int item = isDigits(step) ? Room.find(source, p, b, from[step], to[step]) : MISSING;
-                if (item >= 0) {
-                    walk(room, item, step + 1, depth + 1);
-                }
-                item = Room.first(source, p);
-                for (int i = 0; i < ELEMENTS_GUARD && Room.kind(source, item) != 0; i++) {
-                    if (Room.kind(source, item) == DOCUMENT) {
-                        walk(room, item, step, depth + 1);
-                    }
-                    item = Room.next(source, item);
-                }
-                return;
-            }
-            int element = kind == DOCUMENT ? Room.find(source, p, b, from[step], to[step]) : MISSING;
-            if (element < 0) {
-                room.push(MISSING);
-            } else {
+            boolean inside = kind == DOCUMENT || kind == ROW;
+            // the items of a row have their numbers as names, which no other step is
+            int element = inside ? Room.find(source, p, b, from[step], to[step]) : MISSING;
+            if (element >= 0) {
                 walk(room, element, step + 1, depth + 1);
+            } else if (kind != ROW) {
+                room.push(MISSING);
+            }
+            int item = kind == ROW ? Room.first(source, p) : MISSING;
+            for (int i = 0; i < ELEMENTS_GUARD && Room.kind(source, item) != 0; i++) {
+                if (Room.kind(source, item) == DOCUMENT) {
+                    walk(room, item, step, depth + 1);
+                }
+                item = Room.next(source, item);
             }
         }
     }

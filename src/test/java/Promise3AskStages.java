@@ -246,8 +246,17 @@ public final class Promise3AskStages {
         for (int i = 0; i < 20; i++) {
             Docs.ask(house, "{insert: {a: [{b: '" + "x".repeat(1880) + "'}], c: [{d: " + i + "}]}, shelf: 0}");
         }
-        gives("{$group: {by: 1, a: {$sum: '$a.b'}, b: {$sum: '$a.b'}, c: {$sum: '$a.b'}, d: {$sum: '$a.b'}, "
-            + "e: {$max: '$c.d'}, f: {$min: '$c.d'}}}", "{by: 1, a: 0L, b: 0L, c: 0L, d: 0L, e: [19], f: [0]}");
+        StringBuilder fields = new StringBuilder("by: 1");
+        StringBuilder due = new StringBuilder("by: 1");
+        for (int i = 0; i < 6; i++) {
+            fields.append(", s").append(i).append(": {$sum: '$a.b'}");
+            due.append(", s").append(i).append(": 0L");
+        }
+        for (int i = 0; i < 20; i++) {
+            fields.append(", m").append(i).append(": {$max: '$c.d'}");
+            due.append(", m").append(i).append(": [19]");
+        }
+        gives("{$group: {" + fields + "}}", "{" + due + "}");
         gives("{$group: {by: '$a.b', n: {$max: '$c.d'}, m: {$count: null}, o: {$last: '$a.c'}}}, {$project: {n: true, "
             + "m: true, o: true}}", "{n: [19], m: 20L, o: []}");
         // more than 16 deep

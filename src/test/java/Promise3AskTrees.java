@@ -149,6 +149,25 @@ public final class Promise3AskTrees {
         }
     }
 
+    /** Of entries with the SAME first key the second one tells, as the index goes there, then the NUMBER. */
+    private static void seconds() {
+        for (int way = 0; way < 4; way++) {
+            house = new DocumentHouse();
+            String down = "[" + (way % 2 == 1) + ", " + (way >= 2) + "]";
+            Docs.asks(house, "{index: ['a', 'b'], shelf: 0, down: " + down + "}", "{index: 0}");
+            for (int i = 1; i <= 13; i++) {
+                Docs.asks(house, "{insert: {a: 1" + (i % 2 == 0 ? "L" : "") + ", b: " + i + "}, shelf: 0}",
+                    "{number: " + i + "}");
+            }
+            // UP each comes behind the others, DOWN ahead of them
+            Docs.asks(house, "{shape: 0, shelf: 0}", "{entries: 13, levels: 2, leaves: " + (way >= 2 ? 2 : 3)
+                + ", nodes: " + (way >= 2 ? 3 : 4) + ", first: false, second: false}");
+            Docs.asks(house, "{drop: 0, shelf: 0}", "{dropped: true}");
+            Docs.asks(house, "{index: ['a'], shelf: 0, down: [" + (way >= 2) + "]}", "{index: 0}");
+            shape(13, 2, 3, 4);
+        }
+    }
+
     /** An update takes out and puts in the entries of those that it changes alone. */
     private static void updates() {
         stand(false);
@@ -191,6 +210,7 @@ public final class Promise3AskTrees {
         lessens();
         marks();
         orders();
+        seconds();
         updates();
         Docs.end();
     }
