@@ -2872,7 +2872,9 @@ public final class DocumentHouse {
                 marks = Arrays.copyOf(marks, (old + more) * WIDE);
                 freeNodes = Arrays.copyOf(freeNodes, old + more);
                 boolean[] wider = new boolean[old + more];
-                System.arraycopy(isLeaf, 0, wider, 0, old);
+                for (int i = 0; i < old && i < isLeaf.length; i++) {
+                    wider[i] = isLeaf[i];
+                }
                 isLeaf = wider;
                 for (int i = old + more - 1; i >= old; i--) {
                     freeNodes[freeNodeCount] = i;

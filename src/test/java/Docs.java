@@ -128,6 +128,31 @@ final class Docs {
         }
     }
 
+    // ---- from parts to bytes, for what is no right document ----
+
+    /** Bytes behind one another: of numbers, of texts (a byte a letter) and of other bytes. */
+    static byte[] join(Object... parts) {
+        ByteArrayOutputStream out = new ByteArrayOutputStream();
+        for (Object part : parts) {
+            if (part instanceof Integer) {
+                out.write((Integer) part);
+            } else if (part instanceof byte[]) {
+                out.writeBytes((byte[]) part);
+            } else {
+                for (char c : ((String) part).toCharArray()) {
+                    out.write(c);
+                }
+            }
+        }
+        return out.toByteArray();
+    }
+
+    /** A document of 4 bytes size, these parts and a last 0. */
+    static byte[] raw(Object... parts) {
+        byte[] inside = join(parts);
+        return join(inside.length + 5 & 255, inside.length + 5 >> 8, 0, 0, inside, 0);
+    }
+
     // ---- from bytes to text ----
 
     static String text(byte[] b) {
@@ -206,6 +231,9 @@ final class Docs {
     }
 
     static String askBytes(DocumentHouse house, byte[] request) {
+        if (request.length > 2000) {
+            throw new IllegalArgumentException("no tape has room for a request of " + request.length + " bytes");
+        }
         feed(house, request);
         int length = house.ask(request.length);
         byte[] answer = answer(house);
@@ -218,10 +246,15 @@ final class Docs {
 
     // ---- what is due ----
 
+    private static String brief(Object told) {
+        String text = told.toString();
+        return text.length() < 500 ? text : text.substring(0, 300) + " .. " + text.substring(text.length() - 100);
+    }
+
     static void due(String what, Object got, Object want) {
         if (!got.equals(want)) {
             wrong++;
-            System.out.println(what + "\n  answered " + got + "\n  due is   " + want);
+            System.out.println(brief(what) + "\n  answered " + brief(got) + "\n  due is   " + brief(want));
         }
     }
 
@@ -233,6 +266,21 @@ final class Docs {
     static void fault(DocumentHouse house, byte[] request, int fault, int place) {
         due("a request of " + request.length + " bytes", askBytes(house, request),
             "{fault: " + fault + ", place: " + place + "}");
+    }
+
+    /** Tells when the documents of a shelf aren't these. */
+    static void stand(DocumentHouse house, int shelf, String... due) {
+        int total = 0;
+        due("documents of shelf " + shelf, house.state(shelf), due.length);
+        for (int k = 0; k < due.length; k++) {
+            byte[] bytes = new byte[Math.max(house.size(shelf, k), 0)];
+            for (int i = 0; i < bytes.length; i++) {
+                bytes[i] = (byte) house.byteAt(shelf, k, i);
+            }
+            total += bytes.length;
+            due("document " + k + " of shelf " + shelf, bytes.length == 0 ? "none" : text(bytes), text(bytes(due[k])));
+        }
+        due("bytes of shelf " + shelf, house.state(2 + shelf), total);
     }
 
     /** The place of the element that has that name, the so manieth in the order of their places. */

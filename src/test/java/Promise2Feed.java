@@ -30,6 +30,11 @@ public final class Promise2Feed {
         byte[] request = Docs.bytes("{insert: {a: '" + text + "'}, shelf: 0}");
         Docs.due("bytes of the request", request.length, 2000);
         Docs.due("feeding it", Docs.feed(house, request), 2000);
+        // a feed for which there is no room leaves the tape as it is
+        for (int i = 0; i < 3; i++) {
+            Docs.due("feed over 2,000 bytes", house.feed(-1, 0, 7, Integer.MIN_VALUE, Integer.MAX_VALUE), -1);
+            Docs.due("state(7)", house.state(7), 2000);
+        }
         Docs.due("asking it", house.ask(2000), 17);
         Docs.due("its size", house.size(0, 0), 2000 - 24);
         for (int i = 0; i < rest; i++) {

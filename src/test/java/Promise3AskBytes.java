@@ -1,30 +1,13 @@
-import java.io.ByteArrayOutputStream;
-
 /** Promise 3, Part I: what is no document, its fault and its place. */
 public final class Promise3AskBytes {
     private static DocumentHouse house = new DocumentHouse();
 
-    /** A document of 4 bytes size, these bytes (a text's letters, or numbers) and a last 0. */
     private static byte[] document(Object... parts) {
-        byte[] inside = join(parts);
-        byte[] all = join(inside.length + 5 & 255, inside.length + 5 >> 8, 0, 0, inside, 0);
-        return all;
+        return Docs.raw(parts);
     }
 
     private static byte[] join(Object... parts) {
-        ByteArrayOutputStream out = new ByteArrayOutputStream();
-        for (Object part : parts) {
-            if (part instanceof Integer) {
-                out.write((Integer) part);
-            } else if (part instanceof byte[]) {
-                out.writeBytes((byte[]) part);
-            } else {
-                for (char c : ((String) part).toCharArray()) {
-                    out.write(c);
-                }
-            }
-        }
-        return out.toByteArray();
+        return Docs.join(parts);
     }
 
     private static void fault(int fault, int place, byte[] request) {
