@@ -1,5 +1,5 @@
 import java.nio.charset.StandardCharsets;
-import java.util.HashSet;
+import java.util.Arrays;
 import java.util.Set;
 
 /** Promise 3, Part I, sentence by sentence: the last that is right of each boundary, and the first that is not. */
@@ -208,29 +208,27 @@ public final class Boundary1Bytes {
 
     // ---- "Names and texts are RIGHT UTF-8: the shortest form of code points 0 .. 1114111 but 55296 .. 57343" ----
 
-    private static final Set<String> SHORTEST = new HashSet<>();
-
-    private static String letters(byte[] bytes) {
-        return new String(bytes, StandardCharsets.ISO_8859_1);
-    }
-
-    private static void collectShortest() {
-        for (int point = 0; point <= 1114111; point++) {
-            if (point < 55296 || point > 57343) {
-                SHORTEST.add(letters(new String(Character.toChars(point)).getBytes(StandardCharsets.UTF_8)));
-            }
+    /** Whether these bytes are the shortest form of a code point: what Java writes for the point that their bits tell. */
+    private static boolean isShortest(byte[] bytes) {
+        int point = bytes.length == 1 ? bytes[0] & 255 : bytes[0] & 255 >> bytes.length + 1;
+        for (int i = 1; i < bytes.length; i++) {
+            point = point << 6 | bytes[i] & 63;
         }
+        if (point > 1114111 || point >= 55296 && point <= 57343) {
+            return false;
+        }
+        return Arrays.equals(bytes, new String(Character.toChars(point)).getBytes(StandardCharsets.UTF_8));
     }
 
-    /** Where the first character begins that is none of the shortest forms; -1 when there is none. */
-    private static int firstWrong(String bytes) {
+    /** Where the first character begins that is no shortest form; -1 when there is none. */
+    private static int firstWrong(byte[] bytes) {
         int at = 0;
-        while (at < bytes.length()) {
+        while (at < bytes.length) {
             int length = 1;
-            while (length <= 4 && at + length <= bytes.length() && !SHORTEST.contains(bytes.substring(at, at + length))) {
+            while (length <= 4 && at + length <= bytes.length && !isShortest(Arrays.copyOfRange(bytes, at, at + length))) {
                 length++;
             }
-            if (length > 4 || at + length > bytes.length()) {
+            if (length > 4 || at + length > bytes.length) {
                 return at;
             }
             at += length;
@@ -243,16 +241,14 @@ public final class Boundary1Bytes {
         for (int i = 0; i < bytes.length; i++) {
             text[i] = (byte) bytes[i];
         }
-        int wrong = firstWrong(letters(text));
+        int wrong = firstWrong(text);
         fault(wrong < 0 ? 9 : 4, wrong < 0 ? 4 : 11 + wrong, raw(2, "a", 0, text.length + 1, 0, 0, 0, text, 0));
-        if (letters(text).indexOf(0) < 0) {
+        if (new String(text, StandardCharsets.ISO_8859_1).indexOf(0) < 0) {
             fault(wrong < 0 ? 9 : 4, wrong < 0 ? 4 : 5 + wrong, raw(10, text, 0));
         }
     }
 
     private static void rightCharacters() {
-        collectShortest();
-        Docs.due("shortest forms", SHORTEST.size(), 1114112 - 2048);
         for (int x = 0; x < 256; x++) {
             characters(x);
             characters('a', x);
@@ -276,7 +272,7 @@ public final class Boundary1Bytes {
             right(raw(2, "a", 0, right.length + 1, 0, 0, 0, right, 0));
             // a character ends where its text or name does
             if (right.length > 1) {
-                byte[] cut = java.util.Arrays.copyOf(right, right.length - 1);
+                byte[] cut = Arrays.copyOf(right, right.length - 1);
                 fault(4, 11 + right.length, raw(2, "a", 0, right.length + cut.length + 1, 0, 0, 0, right, cut, 0));
                 fault(4, 5, raw(10, cut, 0, 10, "b", 0));
             }
