@@ -438,6 +438,22 @@ public final class Boundary5Stages {
         gives("{$lookup: {here: 'n', there: 'm', as: 'x'}}, {$limit: 1}", "{n: 1, x: [{m: 1}]}");
     }
 
+    /** "at a row a row of the VALUES": of all documents of a full belt, for the KEY and for an element of a group. */
+    private static void manyRowsOfValues() {
+        String[] documents = new String[42];
+        for (int i = 0; i < documents.length; i++) {
+            documents[i] = "{n: " + i + "}";
+        }
+        stand(documents);
+        String a = text(900);
+        Docs.asks(house, "{update: {}, shelf: 0, change: {$set: {a: [{b: " + a + "}]}}}", "{many: 42, changed: 42}");
+        // {n, a: [{b: text(900)}]} has 5 + 7 + 3 + 5 + 3 + 5 + 3 + 905
+        Docs.due("bytes", house.state(2), 42 * 936);
+        gives("{$group: {by: '$a.b', l: {$last: '$a.b'}}}", "{by: [" + a + "], l: [" + a + "]}");
+        gives("{$group: {by: '$a.b', s: {$sum: '$n'}, m: {$max: '$a.b'}}}", "{by: [" + a + "], s: 861L, m: [" + a + "]}");
+        gives("{$group: {by: '$n', l: {$first: '$a.b'}}}, {$skip: 41}", "{by: 41, l: [" + a + "]}");
+    }
+
     public static void main(String[] args) {
         notOneElement();
         emptyBelts();
@@ -456,6 +472,7 @@ public final class Boundary5Stages {
         tooDeep();
         tooMany();
         fullBelts();
+        manyRowsOfValues();
         Docs.end();
     }
 }

@@ -522,6 +522,50 @@ public final class Boundary6Indexes {
         }
     }
 
+    /** "index: .. the least index that there isn't yet comes. drop: .. that index goes": nothing of one that went is in its place */
+    private static void anotherIndex() {
+        // it had a second path, and this one has NOTHING there
+        stand("{z: 0}", "{b: 5, a: 1, t: 'a text behind both'}");
+        index("['a', 'b']", "[false, false]", 0);
+        Docs.asks(house, "{drop: 0, shelf: 0}", "{dropped: true}");
+        index("['a']", "[false]", 0);
+        shape(0, 2, 1, 1, 1, false, false);
+        Docs.asks(house, "{delete: {z: 0}, shelf: 0}", "{many: 1}");
+        shape(0, 1, 1, 1, 1, false, false);
+        Docs.asks(house, "{delete: {}, shelf: 0}", "{many: 1}");
+        shape(0, 0, 1, 1, 1, false, false);
+        // it had a tree that had grown and lessened, and this one is made by the documents that stand
+        for (int way = 0; way < 2; way++) {
+            empty(way == 1);
+            int n = 90;
+            int[] keys = new int[2 * n + 1];
+            for (int i = 1; i <= n; i++) {
+                keys[i] = i * 37 % n;
+                insertKey(keys[i]);
+            }
+            for (int i = n; i >= 1; i--) {
+                if (i % 3 > 0) {
+                    deleteOne(keys[i], i);
+                }
+            }
+            Docs.asks(house, "{drop: 0, shelf: 0}", "{dropped: true}");
+            index("['a']", "[" + (way == 1) + "]", 0);
+            root = new Node();
+            for (int i = 3; i <= n; i += 3) {
+                comes(keys[i], i);
+            }
+            holdsAgainst();
+            for (int i = n + 1; i <= 2 * n; i++) {
+                keys[i] = i * 53 % n;
+                insertKey(keys[i]);
+            }
+            for (int i = 3; i <= 2 * n; i += i < n ? 3 : 1) {
+                deleteOne(keys[i], i);
+            }
+            shape(0, 0, 1, 1, 1, false, false);
+        }
+    }
+
     public static void main(String[] args) {
         keys();
         manyKeyed();
@@ -533,6 +577,7 @@ public final class Boundary6Indexes {
         choices();
         trees();
         updatesOfTrees();
+        anotherIndex();
         Docs.end();
     }
 }
